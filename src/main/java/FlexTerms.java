@@ -669,10 +669,17 @@ public final class FlexTerms {
             return many;
         }
 
-        /** The FLEX letters on both sides, bits. */
-        int flexOf(int i) {
-            return equations.flexIn(left(i), equations.nodesAt(left(i)))
+        /** The last of U .. Z that stands on one of its sides. */
+        int lastFlex(int i) {
+            int bits = equations.flexIn(left(i), equations.nodesAt(left(i)))
                 | equations.flexIn(right(i), equations.nodesAt(right(i)));
+            int last = NONE;
+            for (int x = 0; x < Letters.FLEX; x++) {
+                if ((bits >> x & 1) != 0) {
+                    last = x;
+                }
+            }
+            return last;
         }
 
         void takeApart() {
@@ -1040,7 +1047,7 @@ public final class FlexTerms {
                 }
             }
             for (int i = 0; i < pairs.count() && i < Pairs.MOST; i++) {
-                lastLetters[i] = 31 - Integer.numberOfLeadingZeros(pairs.flexOf(i));
+                lastLetters[i] = pairs.lastFlex(i);
             }
         }
 

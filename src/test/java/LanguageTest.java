@@ -115,7 +115,7 @@ public final class LanguageTest {
             must(imports.group(1).equals("java.util.Arrays"), "rule 4: import " + imports.group(1));
         }
         Matcher library = Pattern.compile("\\b(System|Math|Integer|Long|Arrays)\\.(\\w+)").matcher(source);
-        Set<String> allowed = Set.of("System.arraycopy", "Math.min", "Math.max", "Arrays.copyOfRange", "Integer.numberOfLeadingZeros");
+        Set<String> allowed = Set.of("System.arraycopy", "Math.min", "Math.max", "Arrays.copyOfRange");
         while (library.find()) {
             must(allowed.contains(library.group()), "rule 4: " + library.group());
         }

@@ -125,6 +125,8 @@ public final class ModelTest {
             String text;
             if (chance(15)) {
                 text = tower() + "=" + (chance(50) ? tower() : term(3, 63)) + ";";
+            } else if (chance(15)) {
+                text = largeOnes();
             } else {
                 text = plain();
             }
@@ -156,6 +158,20 @@ public final class ModelTest {
                 text = chance(8) ? "W(" + text + ",b)" : letter + "(" + text + ")";
             }
             return text;
+        }
+
+        /** Like sides of about 200 NODES by some BODY, or a large part that a BODY may leave out. */
+        private static String largeOnes() {
+            String inside = chance(50) ? "a" : chance(50) ? "f(a)" : "U";
+            int high = 4 + next(5);
+            String large = "V(".repeat(high) + inside + ")".repeat(high);
+            if (chance(40)) {
+                String forced = "V(a)=g(a,a);" + (chance(50) ? "V(b)=g(b,b);" : "");
+                return (chance(50) ? "Y(" + large + ")=b;" : "W(b," + large + ")=f(b);") + forced;
+            }
+            int around = next(12);
+            String side = "f(".repeat(around) + large + ")".repeat(around);
+            return side + "=" + side + ";";
         }
 
         private static String term(int deep, int letters) {

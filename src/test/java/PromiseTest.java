@@ -149,6 +149,10 @@ public final class PromiseTest {
         due("state", x.told(7), 1);
         due("once more", x.reads(), 1);
         due("state by the same", x.told(7), 2);
+        FlexTerms again = with("U=a;");
+        due("solutions", again.solutions(), 1);
+        due("other equations", readsOf(again, "V(a)=a;"), 1);
+        due("other solutions", again.solutions(), 2);
         due("four", readsOf(x, "a=b;U=X;V(a)=Y(b);W(a,b)=Z(a,b);"), 4);
         due("shown", shownOf(x), "a=b;U=X;V(a)=Y(b);W(a,b)=Z(a,b);");
         due("none", readsOf(x, ""), 0);
