@@ -3,117 +3,44 @@ public final class PromiseTest {
     private static final int NONE = FlexTerms.NONE, BAD = FlexTerms.BAD, NO = FlexTerms.NO, FULL = FlexTerms.FULL;
     private static final int U = 0, V = 1, W = 2, X = 3, Y = 4, Z = 5;
     private static final int[] FAR = {Integer.MIN_VALUE, Integer.MIN_VALUE + 1, Integer.MAX_VALUE - 1, Integer.MAX_VALUE};
-    private static int wrong = 0;
-    private static String part = "";
 
-    public static void main(String[] args) {
-        newObject();
-        type();
-        clear();
-        reads();
-        readsFaults();
-        drops();
-        turns();
-        of();
-        shown();
-        pairs();
-        pair();
-        solutions();
-        solutionsOrder();
-        solutionsLimit();
-        size();
-        body();
-        becomes();
-        bodies();
-        back();
-        told();
-        digest();
-        farNumbers();
-        System.out.println(wrong == 0 ? "all promises hold" : wrong + " answers are not as promised");
-        if (wrong != 0) {
-            System.exit(1);
-        }
+    public static void main(String[] args) throws IllegalAccessException {
+        Cases.run(PromiseTest.class);
     }
 
     private static void due(String call, long got, long want) {
-        if (got != want) {
-            wrong++;
-            System.out.println(part + ": " + call + " answered " + got + ", due is " + want);
-        }
+        Cases.due(call, got, want);
     }
 
     private static void due(String call, String got, String want) {
-        if (!got.equals(want)) {
-            wrong++;
-            System.out.println(part + ": " + call + " answered " + got + ", due is " + want);
-        }
+        Cases.due(call, got, want);
     }
 
-    private static int readsOf(FlexTerms x, String text) {
-        x.clear();
-        for (int i = 0; i < text.length(); i++) {
-            x.type(text.charAt(i));
-        }
-        return x.reads();
-    }
-
-    private static FlexTerms with(String text) {
-        FlexTerms x = new FlexTerms();
-        if (readsOf(x, text) < 0) {
-            wrong++;
-            System.out.println(part + ": " + text + " could not be read");
-        }
-        return x;
-    }
-
-    private static String shownOf(FlexTerms x) {
-        StringBuilder out = new StringBuilder();
-        for (int e = 0; e < x.told(4); e++) {
-            for (int k = 0; k < x.shown(e, NONE); k++) {
-                out.append((char) x.shown(e, k));
-            }
-            out.append(';');
-        }
-        return out.toString();
-    }
-
-    private static String bodyOf(FlexTerms x, int i, int letter) {
-        StringBuilder out = new StringBuilder();
-        for (int k = 0; x.body(i, letter, k) > 0; k++) {
-            out.append((char) x.body(i, letter, k));
-        }
-        return out.toString();
-    }
-
-    private static String grownOf(FlexTerms x, int i, int e, int side) {
-        StringBuilder out = new StringBuilder();
-        for (int k = 0; k < x.becomes(i, e, side, NONE); k++) {
-            out.append((char) x.becomes(i, e, side, k));
-        }
-        return out.toString();
+    private static Probe with(String text) {
+        return Probe.with(text);
     }
 
     private static String nested(String letter, int high, String inside) {
         return (letter + "(").repeat(high) + inside + ")".repeat(high);
     }
 
+    @Cases.Says("Promise 1: A new object")
     private static void newObject() {
-        part = "1 a new object";
-        FlexTerms x = new FlexTerms();
+        Probe x = new Probe();
         for (int what = 0; what < 8; what++) {
             due("told " + what, x.told(what), 0);
         }
         due("pairs", x.pairs(0), 0);
         due("solutions", x.solutions(), 1);
         due("back", x.back(), NO);
-        FlexTerms y = new FlexTerms();
+        Probe y = new Probe();
         y.type('a');
         due("another object's text", x.told(3), 0);
     }
 
+    @Cases.Says("Promise 2: type")
     private static void type() {
-        part = "2 type";
-        FlexTerms x = new FlexTerms();
+        Probe x = new Probe();
         due("below", x.type(-1), BAD);
         due("above", x.type(128), BAD);
         due("least", x.type(0), 1);
@@ -129,40 +56,40 @@ public final class PromiseTest {
         due("leaves no state", x.told(7), 0);
     }
 
+    @Cases.Says("Promise 3: clear")
     private static void clear() {
-        part = "3 clear";
-        FlexTerms x = with("U=a;");
+        Probe x = with("U=a;");
         due("clear", x.clear(), 4);
         due("again", x.clear(), 0);
         due("text", x.told(3), 0);
-        due("equations stay", shownOf(x), "U=a;");
+        due("equations stay", x.equations(), "U=a;");
         due("leaves no state", x.told(7), 1);
         due("from the start", x.type('b'), 1);
     }
 
+    @Cases.Says("Promise 4: reads")
     private static void reads() {
-        part = "4 reads";
-        FlexTerms x = new FlexTerms();
-        due("one", readsOf(x, " W ( a , f ( U ) ) = Z ( b , X ) ; "), 1);
-        due("shown", shownOf(x), "W(a,f(U))=Z(b,X);");
+        Probe x = new Probe();
+        due("one", x.tell(" W ( a , f ( U ) ) = Z ( b , X ) ; "), 1);
+        due("shown", x.equations(), "W(a,f(U))=Z(b,X);");
         due("the text stays", x.told(3), 35);
         due("state", x.told(7), 1);
         due("once more", x.reads(), 1);
         due("state by the same", x.told(7), 2);
-        FlexTerms again = with("U=a;");
+        Probe again = with("U=a;");
         due("solutions", again.solutions(), 1);
-        due("other equations", readsOf(again, "V(a)=a;"), 1);
+        due("other equations", again.tell("V(a)=a;"), 1);
         due("other solutions", again.solutions(), 2);
-        due("four", readsOf(x, "a=b;U=X;V(a)=Y(b);W(a,b)=Z(a,b);"), 4);
-        due("shown", shownOf(x), "a=b;U=X;V(a)=Y(b);W(a,b)=Z(a,b);");
-        due("none", readsOf(x, ""), 0);
-        due("blanks", readsOf(x, "   "), 0);
+        due("four", x.tell("a=b;U=X;V(a)=Y(b);W(a,b)=Z(a,b);"), 4);
+        due("shown", x.equations(), "a=b;U=X;V(a)=Y(b);W(a,b)=Z(a,b);");
+        due("none", x.tell(""), 0);
+        due("blanks", x.tell("   "), 0);
         due("states", x.told(7), 5);
-        due("40 nodes", readsOf(x, nested("f", 38, "a") + "=a;"), 1);
+        due("40 nodes", x.tell(nested("f", 38, "a") + "=a;"), 1);
         due("nodes", x.told(5), 40);
-        due("40 nodes, written short", readsOf(x, "g(" + wide(8) + "," + wide(8) + ")=" + wide(4) + ";"), 1);
+        due("40 nodes, written short", x.tell("g(" + wide(8) + "," + wide(8) + ")=" + wide(4) + ";"), 1);
         due("nodes", x.told(5), 31 + 7);
-        due("one more leaves 40", readsOf(x, "g(" + wide(8) + "," + wide(8) + ")=f(f(" + wide(4) + "));"), 1);
+        due("one more leaves 40", x.tell("g(" + wide(8) + "," + wide(8) + ")=f(f(" + wide(4) + "));"), 1);
         due("nodes", x.told(5), 40);
         due("nothing counts", x.told(0) + x.told(1) + x.told(2), 0);
     }
@@ -172,9 +99,9 @@ public final class PromiseTest {
         return leaves == 1 ? "a" : "g(" + wide(leaves / 2) + "," + wide(leaves - leaves / 2) + ")";
     }
 
+    @Cases.Says("Promise 4: reads")
     private static void readsFaults() {
-        part = "4 reads, faults";
-        FlexTerms x = with("U=a;");
+        Probe x = with("U=a;");
         String[] texts = {"a", "a=", "a=a", "a=a ", "=a;", "a;", "a==a;", "a=a;;", "f", "f(", "f(a", "f(a)", "f(a,a)=a;",
             "g(a)=a;", "g(a,a,a)=a;", "a(a)=a;", "U(a)=a;", "X(a)=a;", "V=a;", "W(a)=a;", "c=a;", "A=a;", "T=a;", "1=a;",
             "a=[;", "V(1)=a;", "a=a;b", "a=a;a=a;a=a;a=a; a", "a=a;a=a;a=a;a=a;;", "a=a;\t", " \u0000", "f()=a;", "g(,a)=a;", "(a)=a;"};
@@ -182,44 +109,42 @@ public final class PromiseTest {
             3, 5, 1, 1, 1, 1, 3, 0, 0, 0, 0,
             2, 2, 5, 17, 16, 4, 1, 2, 2, 0};
         for (int i = 0; i < texts.length; i++) {
-            due(texts[i], readsOf(x, texts[i]), -10 - faults[i]);
+            due(texts[i], x.tell(texts[i]), -10 - faults[i]);
         }
-        String wide = "g(" + wide(8) + "," + wide(8) + ")=f(f(f(" + wide(4) + ")));";
-        due("41 nodes", readsOf(x, wide), -10 - wide.lastIndexOf('a'));
-        String four = "a=a;a=a;a=a;";
-        String fourth = four + "f(" + wide(8) + ")=f(" + wide(8) + ");";
-        due("38 nodes in four", readsOf(with(fourth), fourth), 4);
-        String over = four + "f(f(" + wide(8) + "))=f(f(f(" + wide(8) + ")));";
-        due("41 nodes in four", readsOf(x, over), -10 - over.lastIndexOf('a'));
-        x.clear();
-        for (int i = 0; i < 60; i++) {
-            x.type('f');
-            x.type('(');
-        }
-        due("41st of many", x.reads(), -10 - 80);
-        x.clear();
-        for (int i = 0; i < 119; i++) {
-            x.type(' ');
-        }
-        x.type('a');
-        due("a full text that ends too early", x.reads(), -130);
-        due("equations stay", shownOf(x), "U=a;");
+        due("equations stay", x.equations(), "U=a;");
         due("no state", x.told(7), 1);
         due("nothing counts", x.told(0) + x.told(1) + x.told(2), 0);
     }
 
+    @Cases.Says("Promise 4: reads")
+    private static void readsTooMuch() {
+        Probe x = with("U=a;");
+        String wide = "g(" + wide(8) + "," + wide(8) + ")=f(f(f(" + wide(4) + ")));";
+        due("41 nodes", x.tell(wide), -10 - wide.lastIndexOf('a'));
+        String four = "a=a;a=a;a=a;";
+        String fourth = four + "f(" + wide(8) + ")=f(" + wide(8) + ");";
+        due("38 nodes in four", with(fourth).reads(), 4);
+        String over = four + "f(f(" + wide(8) + "))=f(f(f(" + wide(8) + ")));";
+        due("41 nodes in four", x.tell(over), -10 - over.lastIndexOf('a'));
+        due("41st of many", new Probe().tell("f(".repeat(60)), -10 - 80);
+        due("a full text that ends too early", x.tell(" ".repeat(119) + "a"), -130);
+        due("equations stay", x.equations(), "U=a;");
+        due("no state", x.told(7), 1);
+        due("nothing counts", x.told(0) + x.told(1) + x.told(2), 0);
+    }
+
+    @Cases.Says("Promise 5: drops")
     private static void drops() {
-        part = "5 drops";
-        FlexTerms x = with("a=b;U=f(a);V(a)=g(a,b);");
+        Probe x = with("a=b;U=f(a);V(a)=g(a,b);");
         due("below", x.drops(-1), BAD);
         due("above", x.drops(3), BAD);
         due("no state by a refusal", x.told(7), 1);
         due("middle", x.drops(1), 2);
-        due("shown", shownOf(x), "a=b;V(a)=g(a,b);");
+        due("shown", x.equations(), "a=b;V(a)=g(a,b);");
         due("nodes", x.told(5), 7);
         due("flex", x.told(6), 2);
         due("first", x.drops(0), 1);
-        due("shown", shownOf(x), "V(a)=g(a,b);");
+        due("shown", x.equations(), "V(a)=g(a,b);");
         due("solutions", x.solutions(), 2);
         due("last", x.drops(0), 0);
         due("states", x.told(7), 4);
@@ -228,21 +153,21 @@ public final class PromiseTest {
         due("solutions", x.solutions(), 1);
     }
 
+    @Cases.Says("Promise 6: turns")
     private static void turns() {
-        part = "6 turns";
-        FlexTerms x = with("a=b;V(a)=g(a,b);U=X;");
+        Probe x = with("a=b;V(a)=g(a,b);U=X;");
         due("below", x.turns(-1), BAD);
         due("above", x.turns(3), BAD);
         due("turns", x.turns(1), 3);
-        due("shown", shownOf(x), "a=b;g(a,b)=V(a);U=X;");
+        due("shown", x.equations(), "a=b;g(a,b)=V(a);U=X;");
         due("state", x.told(7), 2);
         due("again", x.turns(1), 2);
-        due("shown", shownOf(x), "a=b;V(a)=g(a,b);U=X;");
+        due("shown", x.equations(), "a=b;V(a)=g(a,b);U=X;");
         due("like sides", x.turns(2), 1);
-        due("shown", shownOf(x), "a=b;V(a)=g(a,b);X=U;");
+        due("shown", x.equations(), "a=b;V(a)=g(a,b);X=U;");
         due("states", x.told(7), 4);
         due("bads", x.told(0), 2);
-        FlexTerms y = with("V(a)=g(a,b);");
+        Probe y = with("V(a)=g(a,b);");
         due("solutions", y.solutions(), 2);
         y.turns(0);
         due("solutions", y.solutions(), 2);
@@ -250,9 +175,9 @@ public final class PromiseTest {
         due("pair", y.pair(0, 0), 'g');
     }
 
+    @Cases.Says("Promise 7: of")
     private static void of() {
-        part = "7 of";
-        FlexTerms x = with("g(f(f(U)),W(Z(a,X),b))=a;V(f(Y(b)))=f(V(a));");
+        Probe x = with("g(f(f(U)),W(Z(a,X),b))=a;V(f(Y(b)))=f(V(a));");
         int[] wanted = {9, 1 | 4 | 8 | 32, 4, 'g', 1, 0, 1, 'a', 4, 2 | 16, 4, 'V', 3, 2, 3, 'f'};
         for (int n = 0; n < wanted.length; n++) {
             due("of " + n, x.of(n / 8, n / 4 % 2, n % 4), wanted[n]);
@@ -267,10 +192,10 @@ public final class PromiseTest {
         due("deep", with(nested("f", 36, "a") + "=b;").of(0, 0, 2), 37);
     }
 
+    @Cases.Says("Promise 8: shown")
     private static void shown() {
-        part = "8 shown";
-        FlexTerms x = with(" g ( a , f ( U ) ) = Z ( W ( a , b ) , V ( X ) ) ; b = a ;");
-        due("shown", shownOf(x), "g(a,f(U))=Z(W(a,b),V(X));b=a;");
+        Probe x = with(" g ( a , f ( U ) ) = Z ( W ( a , b ) , V ( X ) ) ; b = a ;");
+        due("shown", x.equations(), "g(a,f(U))=Z(W(a,b),V(X));b=a;");
         due("how many", x.shown(0, NONE), 24);
         due("the last", x.shown(0, 23), ')');
         due("behind it", x.shown(0, 24), -5);
@@ -280,13 +205,13 @@ public final class PromiseTest {
         due("equation", x.shown(-1, NONE), BAD);
         due("bads", x.told(0), 3);
         String longest = nested("f", 36, "a") + "=f(a)";
-        due("a long one", shownOf(with(longest + ";")), longest + ";");
+        due("a long one", with(longest + ";").equations(), longest + ";");
         due("its length", with(longest + ";").shown(0, NONE), longest.length());
     }
 
+    @Cases.Says("Promise 9: pairs")
     private static void pairs() {
-        part = "9 pairs";
-        FlexTerms x = with("g(f(a),g(U,V(a)))=g(f(b),g(f(a),Y(b)));f(a)=g(a,a);a=a;");
+        Probe x = with("g(f(a),g(U,V(a)))=g(f(b),g(f(a),Y(b)));f(a)=g(a,a);a=a;");
         int[] wanted = {4, 2, 1, 1};
         for (int what = 0; what < 4; what++) {
             due("pairs " + what, x.pairs(what), wanted[what]);
@@ -299,9 +224,9 @@ public final class PromiseTest {
         due("many", with(u + "=" + u + ";U=U;").pairs(3), 9);
     }
 
+    @Cases.Says("Promise 10: pair")
     private static void pair() {
-        part = "10 pair";
-        FlexTerms x = with("g(f(a),g(U,V(a)))=g(f(b),g(f(a),Y(b)));f(W(a,b))=a;g(b,b)=Z(a,a);f(a)=f(Y(b));");
+        Probe x = with("g(f(a),g(U,V(a)))=g(f(b),g(f(a),Y(b)));f(W(a,b))=a;g(b,b)=Z(a,a);f(a)=f(Y(b));");
         int[][] wanted = {{'a', 'b', 1, 1, 1, 0}, {'U', 'f', 1, 2, 2, 1}, {'V', 'Y', 2, 2, 3, 0},
             {'f', 'a', 4, 1, 1, 0}, {'g', 'Z', 3, 3, 2, 3}, {'a', 'Y', 1, 2, 2, 2}};
         for (int i = 0; i < wanted.length; i++) {
@@ -318,8 +243,8 @@ public final class PromiseTest {
         due("-5 is no refusal", x.told(1), 0);
     }
 
+    @Cases.Says("Promise 11: solutions")
     private static void solutions() {
-        part = "11 solutions";
         String[] texts = {"", "a=a;", "a=b;", "U=a;", "U=f(U);", "U=f(X);", "V(a)=a;", "V(a)=V(b);", "V(a)=b;V(b)=a;",
             "W(a,b)=Z(b,a);", "U=f(f(f(f(f(a)))));", "U=f(f(f(f(f(f(a))))));", "U=a;U=b;", "g(U,U)=g(a,X);", "f(U)=g(U,U);"};
         int[] wanted = {1, 1, 0, 1, 0, 4, 2, 40, 0, 40, 1, 0, 0, 1, 0};
@@ -331,29 +256,29 @@ public final class PromiseTest {
         due("SIZE 7", with("W(a,b)=a;V(b)=b;Y(a)=a;Z(b,a)=f(f(U));").solutions(), 0);
     }
 
+    @Cases.Says("Promise 11: solutions")
     private static void solutionsOrder() {
-        part = "11 solutions, their order";
-        FlexTerms x = with("W(a,b)=g(a,b);");
+        Probe x = with("W(a,b)=g(a,b);");
         String[] wanted = {"g(1,2)", "g(1,b)", "g(a,2)", "g(a,b)"};
         due("many", x.solutions(), wanted.length);
         for (int i = 0; i < wanted.length; i++) {
-            due("body " + i, bodyOf(x, i, W), wanted[i]);
+            due("body " + i, x.bodyText(i, W), wanted[i]);
         }
-        FlexTerms y = with("V(Y(a))=f(f(a));");
+        Probe y = with("V(Y(a))=f(f(a));");
         String[] pairs = {"1 f(f(1))", "1 f(f(a))", "f(1) f(1)", "f(1) f(a)", "f(f(1)) 1", "f(f(1)) a", "f(f(a)) 1", "f(f(a)) a",
             "f(f(a)) b", "f(f(a)) f(1)"};
         for (int i = 0; i < pairs.length; i++) {
-            due("bodies " + i, bodyOf(y, i, V) + " " + bodyOf(y, i, Y), pairs[i]);
+            due("bodies " + i, y.bodyText(i, V) + " " + y.bodyText(i, Y), pairs[i]);
         }
         for (int i = 1; i < y.solutions(); i++) {
             due("sizes rise", y.size(i) >= y.size(i - 1) ? 1 : 0, 1);
         }
     }
 
+    @Cases.Says("Promise 11: solutions")
     private static void solutionsLimit() {
-        part = "11 solutions, 200 nodes";
         // By V = g(1,f(1)) the six letters V become 190 nodes; the letters f around them count, too.
-        FlexTerms fits = with(alike(nested("f", 10, nested("V", 6, "a"))));
+        Probe fits = with(alike(nested("f", 10, nested("V", 6, "a"))));
         int i = indexOf(fits, V, "g(1,f(1))");
         due("200 nodes", i >= 0 ? 1 : 0, 1);
         due("200 nodes", fits.becomes(i, 0, 0, NONE), 200);
@@ -365,29 +290,29 @@ public final class PromiseTest {
         due("127 nodes", indexOf(with(alike(six)), V, "g(1,1)") >= 0 ? 1 : 0, 1);
         due("255 nodes", indexOf(with(alike("g(" + six + "," + six + ")")), V, "g(1,1)"), -1);
         // A part that becomes 511 nodes, but stands nowhere in what the side becomes.
-        FlexTerms dropped = with("Y(" + nested("V", 8, "a") + ")=b;V(a)=g(a,a);V(b)=g(b,b);");
+        Probe dropped = with("Y(" + nested("V", 8, "a") + ")=b;V(a)=g(a,a);V(b)=g(b,b);");
         due("a large part that is left out", dropped.solutions(), 1);
-        due("V", bodyOf(dropped, 0, V), "g(1,1)");
-        due("Y", bodyOf(dropped, 0, Y), "b");
-        due("becomes", grownOf(dropped, 0, 0, 0), "b");
+        due("V", dropped.bodyText(0, V), "g(1,1)");
+        due("Y", dropped.bodyText(0, Y), "b");
+        due("becomes", dropped.grown(0, 0, 0), "b");
     }
 
     private static String alike(String side) {
         return side + "=" + side + ";";
     }
 
-    private static int indexOf(FlexTerms x, int letter, String body) {
+    private static int indexOf(Probe x, int letter, String body) {
         for (int i = 0; i < x.solutions(); i++) {
-            if (bodyOf(x, i, letter).equals(body)) {
+            if (x.bodyText(i, letter).equals(body)) {
                 return i;
             }
         }
         return -1;
     }
 
+    @Cases.Says("Promise 12: size")
     private static void size() {
-        part = "12 size";
-        FlexTerms x = with("U=f(X);");
+        Probe x = with("U=f(X);");
         int[] wanted = {3, 3, 5, 5};
         for (int i = 0; i < wanted.length; i++) {
             due("size " + i, x.size(i), wanted[i]);
@@ -398,19 +323,19 @@ public final class PromiseTest {
         due("noes", x.told(1), 1);
         due("no letters", with("a=a;").size(0), 0);
         due("no solutions", with("a=b;").size(0), NO);
-        FlexTerms many = with("U=U;");
+        Probe many = with("U=U;");
         due("forty", many.solutions(), 40);
         due("the 40th", many.size(39), 5);
         due("the 41st", many.size(40), NO);
     }
 
+    @Cases.Says("Promise 13: body")
     private static void body() {
-        part = "13 body";
-        FlexTerms x = with("W(a,b)=g(f(a),b);Y(a)=b;");
+        Probe x = with("W(a,b)=g(f(a),b);Y(a)=b;");
         due("size", x.body(0, W, NONE), 4);
-        due("body", bodyOf(x, 0, W), "g(f(1),2)");
+        due("body", x.bodyText(0, W), "g(f(1),2)");
         due("behind it", x.body(0, W, 9), -5);
-        due("one letter", bodyOf(x, 0, Y), "b");
+        due("one letter", x.bodyText(0, Y), "b");
         due("its size", x.body(0, Y, NONE), 1);
         due("behind it", x.body(0, Y, 1), -5);
         due("does not stand there", x.body(0, U, NONE), -5);
@@ -423,17 +348,17 @@ public final class PromiseTest {
         due("not so many", x.body(x.solutions(), U, 0), NO);
         due("bads", x.told(0), 5);
         due("noes", x.told(1), 1);
-        due("longest", bodyOf(with("U=f(f(f(f(f(b)))));"), 0, U), "f(f(f(f(f(b)))))");
-        due("X", bodyOf(with("X=g(a,g(b,a));"), 0, X), "g(a,g(b,a))");
+        due("longest", with("U=f(f(f(f(f(b)))));").bodyText(0, U), "f(f(f(f(f(b)))))");
+        due("X", with("X=g(a,g(b,a));").bodyText(0, X), "g(a,g(b,a))");
     }
 
+    @Cases.Says("Promise 14: becomes")
     private static void becomes() {
-        part = "14 becomes";
-        FlexTerms x = with("W(f(a),b)=g(b,f(a));f(U)=f(b);");
-        due("body", bodyOf(x, 0, W), "g(2,1)");
-        due("left", grownOf(x, 0, 0, 0), "gbfa");
-        due("right", grownOf(x, 0, 0, 1), "gbfa");
-        due("other", grownOf(x, 0, 1, 0), "fb");
+        Probe x = with("W(f(a),b)=g(b,f(a));f(U)=f(b);");
+        due("body", x.bodyText(0, W), "g(2,1)");
+        due("left", x.grown(0, 0, 0), "gbfa");
+        due("right", x.grown(0, 0, 1), "gbfa");
+        due("other", x.grown(0, 1, 0), "fb");
         due("nodes", x.becomes(0, 0, 0, NONE), 4);
         due("the last", x.becomes(0, 0, 0, 3), 'a');
         due("behind it", x.becomes(0, 0, 0, 4), -5);
@@ -447,12 +372,12 @@ public final class PromiseTest {
         due("not so many", x.becomes(x.solutions(), 0, 0, 0), NO);
         due("bads", x.told(0), 7);
         due("noes", x.told(1), 1);
-        due("letters in letters", grownOf(with("V(V(V(a)))=f(f(f(a)));V(b)=f(b);"), 0, 0, 0), "fffa");
+        due("letters in letters", with("V(V(V(a)))=f(f(f(a)));V(b)=f(b);").grown(0, 0, 0), "fffa");
     }
 
+    @Cases.Says("Promise 15: bodies")
     private static void bodies() {
-        part = "15 bodies";
-        FlexTerms x = new FlexTerms();
+        Probe x = new Probe();
         int[][] wanted = {{2, 2, 6, 14, 42, 122}, {3, 3, 12, 30, 111, 363}, {4, 4, 20, 52, 228, 804}};
         for (int letter = U; letter <= Z; letter++) {
             for (int n = 1; n <= 6; n++) {
@@ -466,41 +391,41 @@ public final class PromiseTest {
         due("bads", x.told(0), 4);
     }
 
+    @Cases.Says("Promise 16: back")
     private static void back() {
-        part = "16 back";
-        FlexTerms x = with("U=a;V(a)=b;");
+        Probe x = with("U=a;V(a)=b;");
         x.turns(0);
         x.drops(1);
         due("solutions", x.solutions(), 1);
         due("back", x.back(), 2);
-        due("shown", shownOf(x), "a=U;V(a)=b;");
+        due("shown", x.equations(), "a=U;V(a)=b;");
         due("solutions", x.solutions(), 1);
         due("back", x.back(), 1);
-        due("shown", shownOf(x), "U=a;V(a)=b;");
+        due("shown", x.equations(), "U=a;V(a)=b;");
         due("back", x.back(), 0);
-        due("shown", shownOf(x), "");
+        due("shown", x.equations(), "");
         due("none", x.back(), NO);
         due("noes", x.told(1), 1);
         due("the text stays", x.told(3), 11);
         for (int i = 0; i < 7; i++) {
-            readsOf(x, nested("f", i, "a") + "=U;");
+            x.tell(nested("f", i, "a") + "=U;");
         }
         due("five at most", x.told(7), 5);
         due("solutions", x.solutions(), 0);
         for (int i = 5; i >= 1; i--) {
             due("back", x.back(), i - 1);
-            due("shown", shownOf(x), nested("f", i, "a") + "=U;");
+            due("shown", x.equations(), nested("f", i, "a") + "=U;");
             due("solutions", x.solutions(), 1);
         }
         due("older ones are lost", x.back(), NO);
-        due("shown", shownOf(x), "f(a)=U;");
+        due("shown", x.equations(), "f(a)=U;");
         x.turns(0);
         due("a new one", x.back(), 0);
     }
 
+    @Cases.Says("Promise 17: told")
     private static void told() {
-        part = "17 told";
-        FlexTerms x = with("U=Z(a,b);Y(X)=f(a);");
+        Probe x = with("U=Z(a,b);Y(X)=f(a);");
         x.back();
         x.back();
         x.reads();
@@ -513,22 +438,22 @@ public final class PromiseTest {
         due("bads", x.told(0), 2);
     }
 
+    @Cases.Says("Promise 18: digest")
     private static void digest() {
-        part = "18 digest";
-        FlexTerms x = with("V(f(U))=g(a,b);f(f(a))=f(f(a));");
+        Probe x = with("V(f(U))=f(f(b));X=f(f(a));");
         x.pairs(9);
         x.size(400);
         due("digest", x.digest(), toldDigest(x));
-        due("asked again", x.digest(), toldDigest(x));
-        due("no equations", new FlexTerms().digest(), toldDigest(new FlexTerms()));
+        due("asked again", x.digest(), x.digest());
+        due("no equations", new Probe().digest(), toldDigest(new Probe()));
         long before = x.digest();
         x.told(8);
         due("a refusal changes it", x.digest() == before ? 1 : 0, 0);
         due("no solutions", with("a=b;").digest(), toldDigest(with("a=b;")));
-        due("many solutions", with("V(a)=Y(b);").digest(), toldDigest(with("V(a)=Y(b);")));
+        due("more solutions", with("V(a)=g(a,a);").digest(), toldDigest(with("V(a)=g(a,a);")));
     }
 
-    private static long toldDigest(FlexTerms x) {
+    private static long toldDigest(Probe x) {
         long h = 2473;
         for (int what = 0; what < 8; what++) {
             h = 31 * h + x.told(what);
@@ -543,17 +468,17 @@ public final class PromiseTest {
         for (int i = 0; i < x.solutions(); i++) {
             h = 31 * h + x.size(i);
             for (int letter = U; letter <= Z; letter++) {
-                for (int k = 0; x.body(i, letter, k) != -5; k++) {
-                    h = 31 * h + x.body(i, letter, k);
+                for (char c : x.bodyText(i, letter).toCharArray()) {
+                    h = 31 * h + c;
                 }
             }
         }
         return h;
     }
 
+    @Cases.Says("BAD -2 a number is not as told")
     private static void farNumbers() {
-        part = "far numbers";
-        FlexTerms x = with("V(a)=g(a,a);U=b;");
+        Probe x = with("V(a)=g(a,a);U=b;");
         for (int far : FAR) {
             int high = far > 0 ? -5 : BAD;
             due("type", x.type(far), BAD);
