@@ -260,6 +260,52 @@ public final class BoundaryCallsTest {
         due("states", x.told(7), 5);
     }
 
+    @Cases.Says("those behind it are one nearer")
+    private static void promise5_drops_thoseBehindAreWhole() {
+        for (int e = 0; e < 4; e++) {
+            for (int other = 0; other < 3; other++) {
+                int was = other < e ? other : other + 1;
+                String[] left = full();
+                Probe x = Probe.with(String.join("", left));
+                x.drops(e);
+                left[e] = "";
+                left[was] = turned(left[was]);
+                due("turns " + other, x.turns(other), Probe.with(left[was]).of(0, 0, 0));
+                due("equations", x.equations(), String.join("", left));
+                left[was] = "";
+                due("drops " + other, x.drops(other), 2);
+                due("equations", x.equations(), String.join("", left));
+            }
+        }
+    }
+
+    private static String turned(String equation) {
+        int middle = equation.indexOf('=');
+        return equation.substring(middle + 1, equation.length() - 1) + "=" + equation.substring(0, middle) + ";";
+    }
+
+    /** Four EQUATIONS of 40 NODES in all, no two with as many NODES. */
+    private static String[] full() {
+        String chain = nested("f", 13, "a");
+        return new String[] {"a=b;", "U=f(f(X));", chain + "=" + nested("f", 14, "U") + ";", "g(a,f(U))=b;"};
+    }
+
+    @Cases.Says("An EQUATION goes (those behind it are one nearer): how many are left.")
+    private static void promise5_drops_of40Nodes() {
+        due("nodes", Probe.with(String.join("", full())).told(5), 40);
+        for (int e = 0; e < 4; e++) {
+            String[] left = full();
+            Probe x = Probe.with(String.join("", left));
+            int nodes = 40 - x.of(e, 0, 0) - x.of(e, 1, 0);
+            left[e] = "";
+            due("drops", x.drops(e), 3);
+            due("nodes", x.told(5), nodes);
+            due("equations", x.equations(), String.join("", left));
+            due("back", x.back(), 1);
+            due("equations", x.equations(), String.join("", full()));
+        }
+    }
+
     // ---- 6
 
     @Cases.Says("LEFT (side 0) and RIGHT (1) of an EQUATION change places: NODES of LEFT then. S. BAD.")
@@ -302,6 +348,21 @@ public final class BoundaryCallsTest {
         due("right", x.of(0, 1, 0), 39);
         due("turns", x.turns(0), 39);
         due("equations", x.equations(), chain + "=U;");
+    }
+
+    @Cases.Says("LEFT (side 0) and RIGHT (1) of an EQUATION change places")
+    private static void promise6_turns_of40Nodes() {
+        for (int e = 0; e < 4; e++) {
+            String[] all = full();
+            Probe x = Probe.with(String.join("", all));
+            int nodes = x.of(e, 1, 0);
+            all[e] = turned(all[e]);
+            due("turns", x.turns(e), nodes);
+            due("nodes", x.told(5), 40);
+            due("equations", x.equations(), String.join("", all));
+            due("back", x.back(), 1);
+            due("equations", x.equations(), String.join("", full()));
+        }
     }
 
     // ---- 7

@@ -278,8 +278,24 @@ public final class BoundaryTermsTest {
         Probe over = Probe.with(alike("f(" + side + ")") + forced);
         due("201 nodes", over.solutions(), 7);
         due("the first", over.solution(0), "V=g(1,g(1,f(a)))");
-        // Four letters V become 201 NODES.
-        due("201 nodes", Probe.with(alike(nested("V", 4, "a")) + forced).solution(0), "V=g(1,g(1,f(a)))");
+    }
+
+    @Cases.Says("It SOLVES, if LEFT and RIGHT of each EQUATION become the same, none having more than 200 NODES then.")
+    private static void choice_200NodesOfAFlexFront() {
+        // By V = g(1,f(1)) a part of n NODES becomes 2 n + 2; five letters V become 94 NODES.
+        for (int around = 4; around <= 6; around++) {
+            String text = alike("V(" + nested("f", around, nested("V", 5, "a")) + ")");
+            int i = indexOfDoubled(text);
+            due("solves with " + (190 + 2 * around) + " nodes", i >= 0 ? 1 : 0, around <= 5 ? 1 : 0);
+            if (around <= 5) {
+                due("left", Probe.with(text).becomes(i, 0, 0, NONE), 190 + 2 * around);
+            }
+        }
+        // By V = g(1,g(1,f(1))) four letters V become 201 NODES; by the seven others of its kind, fewer.
+        String forced = "V(a)=g(a,g(a,f(a)));";
+        Probe over = Probe.with(alike(nested("V", 4, "a")) + forced);
+        due("201 nodes", over.solutions(), 7);
+        due("the first", over.solution(0), "V=g(1,g(1,f(a)))");
     }
 
     @Cases.Says("none having more than 200 NODES then.")
