@@ -179,7 +179,7 @@ public final class BoundaryCallsTest {
 
     // ---- 4
 
-    @Cases.Says("EQUATIONS become those of THE TEXT (which stays): how many.")
+    @Cases.Says("EQUATIONS become those of THE TEXT (which stays): how many. S.")
     private static void promise4_reads_0To4() {
         for (int many = 0; many <= 4; many++) {
             Probe x = Probe.with("X=a;b=X;");
@@ -395,7 +395,8 @@ public final class BoundaryCallsTest {
         due("deepest", Probe.with(nested("f", 38, "a") + "=a;").of(0, 0, 2), 39);
     }
 
-    @Cases.Says("Of a side (0, 1) of an EQUATION")
+    @Cases.Says("Of a side (0, 1) of an EQUATION: NODES (what 0), FLEX letters in it (1, bits), "
+        + "how deep it is (2: 1 for a letter without parts), the byte of its first letter (3). BAD.")
     private static void promise7_of_bad() {
         for (int far : new int[] {LEAST, -1, MOST}) {
             refuses("of equation " + far, BAD, x -> x.of(far, 0, 0));
@@ -476,7 +477,8 @@ public final class BoundaryCallsTest {
 
     // ---- 10
 
-    @Cases.Says("the bytes of the first letters of both sides (what 0, 1), NODES of them (2, 3), 1 CLASHES, 2 HALF, 3 FLEX (4), WAYS (5; 0: not HALF)")
+    @Cases.Says("Of the i-th PAIR (0 on): the bytes of the first letters of both sides (what 0, 1), NODES of them (2, 3), "
+        + "1 CLASHES, 2 HALF, 3 FLEX (4), WAYS (5; 0: not HALF)")
     private static void promise10_pair_each() {
         Probe x = Probe.with("g(f(a),V(a))=g(b,W(a,U));Z(a,b)=f(a);g(a,a)=Y(f(b));b=U;");
         int[][] want = {{'f', 'b', 2, 1, 1, 0}, {'V', 'W', 2, 3, 3, 0}, {'Z', 'f', 3, 2, 2, 3}, {'g', 'Y', 3, 3, 2, 2}, {'b', 'U', 1, 1, 2, 1}};
@@ -580,7 +582,8 @@ public final class BoundaryCallsTest {
 
     // ---- 13
 
-    @Cases.Says("SIZE (k NONE), the k-th byte as written (k 0 on); -5: not so many, x does not stand in the EQUATIONS.")
+    @Cases.Says("Of the BODY for a FLEX letter x (0 .. 5) in the i-th SOLUTION: SIZE (k NONE), the k-th byte as written (k 0 on); "
+        + "-5: not so many, x does not stand in the EQUATIONS.")
     private static void promise13_body_firstToLastByte() {
         String[] bodies = {"a", "f(b)", "g(f(a),b)", "f(f(f(f(f(a)))))", "g(f(a),g(a,b))"};
         int[] sizes = {1, 2, 4, 6, 6};
@@ -832,7 +835,7 @@ public final class BoundaryCallsTest {
         }
     }
 
-    @Cases.Says("How often refused: BAD (0), NO (1), FULL (2)")
+    @Cases.Says("FLEX letters that stand in them (6, bits), STATES (7). BAD.")
     private static void promise17_told_bad() {
         for (int what : new int[] {LEAST, -1, 8, 9, MOST}) {
             refuses("told " + what, BAD, x -> x.told(what));
@@ -855,7 +858,8 @@ public final class BoundaryCallsTest {
         return h.longValue();
     }
 
-    @Cases.Says("h = 2473; then h = 31 h + v for each v")
+    @Cases.Says("h = 2473; then h = 31 h + v for each v: told(0) to told(7); EQUATION by EQUATION of LEFT, then of RIGHT of(0) to of(3); "
+        + "pairs(0) to pairs(3); solutions(); SOLUTION by SOLUTION its SIZE, then of each FLEX letter that stands there the bytes of its BODY.")
     private static void promise18_digest_spelledOut() {
         due("no equations, text and counts", refusedOften().digest(), digestOf(3, 2, 1, 120, 0, 0, 0, 0, 0, 0, 0, 0, 1, 0));
         due("one letter", Probe.with("U=f(a);").digest(), digestOf(0, 0, 0, 7, 1, 3, 1, 1, 1, 1, 1, 'U', 2, 0, 2, 'f', 1, 0, 1, 0,

@@ -161,7 +161,7 @@ public final class BoundaryTermsTest {
 
     // ---- bodies
 
-    @Cases.Says("of 1 (for V, W, Y, Z), 2 (for W, Z) in place of TERMS; no FLEX letters.")
+    @Cases.Says("A BODY for a FLEX letter: as a TERM made of a, b, f, g and of 1 (for V, W, Y, Z), 2 (for W, Z) in place of TERMS; no FLEX letters.")
     private static void body_figuresForEachLetter() {
         String[] texts = {"U=U;", "V(a)=V(a);", "W(a,a)=W(a,a);", "X=X;", "Y(a)=Y(a);", "Z(a,a)=Z(a,a);"};
         String[] ones = {"U=a, U=b, U=f(a), U=f(b)", "V=1, V=a, V=b, V=f(1), V=f(a), V=f(b)",
@@ -232,7 +232,7 @@ public final class BoundaryTermsTest {
         due("a letter that has no say", solved("V(U)=V(U);V(a)=b;").subList(0, 3).toString(), "[U=a V=b, U=b V=b, U=f(a) V=b]");
     }
 
-    @Cases.Says("each FLEX letter with its parts (as they have become) its BODY, 1 and 2 in it being those parts.")
+    @Cases.Says("By it a TERM becomes: each FLEX letter with its parts (as they have become) its BODY, 1 and 2 in it being those parts.")
     private static void choice_partsAsTheyHaveBecome() {
         Probe x = Probe.with("W(W(a,b),W(b,a))=g(g(a,b),g(b,a));W(a,b)=g(b,a);");
         due("W", x.solution(0), "W=g(2,1)");
@@ -391,7 +391,7 @@ public final class BoundaryTermsTest {
         }
     }
 
-    @Cases.Says("a PAIR is FLEX, if both sides begin with FLEX letters, HALF, if one does.")
+    @Cases.Says("A PAIR whose sides begin with unlike ones of a, b, f, g CLASHES; a PAIR is FLEX, if both sides begin with FLEX letters, HALF, if one does.")
     private static void pairs_kindByEachTwoFronts() {
         for (int l = 0; l < LETTERS.length(); l++) {
             for (int r = 0; r < LETTERS.length(); r++) {

@@ -1,4 +1,6 @@
 import java.io.IOException;
+import java.lang.management.ManagementFactory;
+import java.lang.management.ThreadMXBean;
 import java.lang.reflect.Constructor;
 import java.lang.reflect.Field;
 import java.lang.reflect.Method;
@@ -19,15 +21,22 @@ public final class LanguageTest {
         "int turns(int)", "int of(int,int,int)", "int shown(int,int)", "int pairs(int)", "int pair(int,int)",
         "int solutions()", "int size(int)", "int body(int,int,int)", "int becomes(int,int,int,int)",
         "int bodies(int,int)", "int back()", "int told(int)", "long digest()");
+    private static final List<String> SECTIONS = List.of("---- equations", "type", "clear", "reads", "drops", "turns", "of", "shown",
+        "---- pairs", "pairs", "pair", "---- solutions", "solutions", "size", "body", "becomes", "bodies",
+        "---- what there is", "back", "told", "digest");
     private static final int MOST_CLASSES = 12;
     private static final int MOST_FIELDS = 20;
     private static final int MOST_PARAMETERS = 7;
+    /** A small part of the room of a run, some 7.3 million fields and elements. */
+    private static final long MOST_BYTES = 400_000;
     private static int wrong = 0;
 
     public static void main(String[] args) throws IOException {
         faceIsTheDocuments();
         classesInsideAreSmall();
+        sectionsAreTheDocuments(Files.readString(SOURCE));
         sourceKeepsToTheRules(withoutComments(Files.readString(SOURCE)));
+        runStaysSmall();
         System.out.println(wrong == 0 ? "the rules are kept" : wrong + " rules are broken");
         if (wrong != 0) {
             System.exit(1);
@@ -69,6 +78,16 @@ public final class LanguageTest {
         Constructor<?>[] constructors = FlexTerms.class.getDeclaredConstructors();
         must(constructors.length == 1 && Modifier.isPublic(constructors[0].getModifiers()), "rule 1: the constructor");
         must(Modifier.isFinal(FlexTerms.class.getModifiers()), "rule 1: the class is not final");
+    }
+
+    /** "Ahead of the calls .. the interface says" these. */
+    private static void sectionsAreTheDocuments(String source) {
+        Matcher lines = Pattern.compile("// (---- .*)|^    public (?:int|long) (\\w+)\\(", Pattern.MULTILINE).matcher(source);
+        StringBuilder found = new StringBuilder();
+        while (lines.find()) {
+            found.append(lines.group(1) != null ? lines.group(1) : lines.group(2)).append('\n');
+        }
+        must(found.toString().equals(String.join("\n", SECTIONS) + "\n"), "the calls stand in this order: " + found);
     }
 
     private static void classesInsideAreSmall() {
@@ -120,6 +139,38 @@ public final class LanguageTest {
             must(allowed.contains(library.group()), "rule 4: " + library.group());
         }
         methodsAreShort(source);
+    }
+
+    private static void runStaysSmall() {
+        ThreadMXBean threads = ManagementFactory.getThreadMXBean();
+        if (!(threads instanceof com.sun.management.ThreadMXBean)) {
+            System.out.println("this Java does not tell what a thread makes: the room of a run was not measured");
+            return;
+        }
+        com.sun.management.ThreadMXBean counting = (com.sun.management.ThreadMXBean) threads;
+        long self = Thread.currentThread().getId();
+        // The first run loads the classes, which is not counted.
+        dearRun();
+        long before = counting.getThreadAllocatedBytes(self);
+        dearRun();
+        long made = counting.getThreadAllocatedBytes(self) - before;
+        must(made <= MOST_BYTES, "rule 12: a run of 512 calls makes " + made + " bytes");
+    }
+
+    /** 512 calls, most of them those that look for SOLUTIONS anew or make something. */
+    private static void dearRun() {
+        FlexTerms x = new FlexTerms();
+        String text = "W(V(V(a)),U)=W(V(V(a)),X);";
+        for (int i = 0; i < text.length(); i++) {
+            x.type(text.charAt(i));
+        }
+        for (int calls = text.length() + 6; calls <= 512; calls += 6) {
+            x.reads();
+            x.turns(0);
+            x.digest();
+            x.becomes(x.solutions() - 1, 0, 0, 1);
+            x.shown(0, 5);
+        }
     }
 
     private static void methodsAreShort(String source) {

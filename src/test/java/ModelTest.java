@@ -167,11 +167,18 @@ public final class ModelTest {
             String large = "V(".repeat(high) + inside + ")".repeat(high);
             if (chance(40)) {
                 String forced = "V(a)=g(a,a);" + (chance(50) ? "V(b)=g(b,b);" : "");
-                return (chance(50) ? "Y(" + large + ")=b;" : "W(b," + large + ")=f(b);") + forced;
+                return leavingOut(large) + forced;
             }
             int around = next(12);
             String side = "f(".repeat(around) + large + ")".repeat(around);
             return side + "=" + side + ";";
+        }
+
+        private static String leavingOut(String large) {
+            String[] lefts = {"Y(?)", "W(b,?)", "W(?,b)", "Y(Y(?))", "f(W(V(b),?))", "V(Y(?))", "Z(W(?,a),b)", "W(Y(?),V(a))", "g(Y(?),V(b))"};
+            String[] rights = {"b", "f(b)", "g(b,b)", "f(g(b,b))", "Y(a)", "V(b)", "U", "W(b,b)", "g(b,g(b,b))", "Y(f(?))"};
+            // Both sides with a part of eight letters are still well below 40 NODES.
+            return lefts[next(lefts.length)].replace("?", large) + "=" + rights[next(rights.length)].replace("?", large) + ";";
         }
 
         private static String term(int deep, int letters) {
